@@ -29,7 +29,7 @@ public final class ProjectPlanner {
 
     private static final CommandKind[] COMMAND_KINDS = CommandKind.values();
 
-    private final Plan plan = firstPlan();
+    private final Plan plan;
     private final Plan draft = new Plan();
     private final History history = new History();
     private final Plan[] saved = new Plan[SLOTS];
@@ -43,16 +43,13 @@ public final class ProjectPlanner {
         for (int slot = 0; slot < SLOTS; slot++) {
             saved[slot] = new Plan();
         }
-    }
-
-    private static Plan firstPlan() {
         Tokens text = new Tokens();
         text.input.putText("project 1;resource crew 3;resource crane 1;");
         text.input.putText("task dig 3 2 0;task wall 5 2 1 after dig;task roof 2 1 1 after wall;");
         text.input.putText("task pipe 4 1 0 after dig;task paint 3 1 0 after wall pipe;");
         Plan first = new Plan();
         Setup.read(text, first);
-        return first;
+        plan = first;
     }
 
     // ---- input
@@ -1375,23 +1372,17 @@ public final class ProjectPlanner {
                 return true;
             }
             tokens.advance();
-            boolean good = readLink(tokens, plan, task);
-            for (int more = 1; more <= MAX_TASKS && good && tokens.kind == TokenKind.WORD; more++) {
-                good = readLink(tokens, plan, task);
+            for (int names = 0; names == 0 || names <= MAX_TASKS && tokens.kind == TokenKind.WORD; names++) {
+                int from = plan.taskNamed(tokens.word);
+                if (!tokens.isAtKnownName(from)) {
+                    return false;
+                }
+                if (plan.isLinked(from, task)) {
+                    return tokens.fail(LISTED_TWICE);
+                }
+                plan.predecessors[task] |= 1 << from;
+                tokens.advance();
             }
-            return good;
-        }
-
-        private static boolean readLink(Tokens tokens, Plan plan, int task) {
-            int from = plan.taskNamed(tokens.word);
-            if (!tokens.isAtKnownName(from)) {
-                return false;
-            }
-            if (plan.isLinked(from, task)) {
-                return tokens.fail(LISTED_TWICE);
-            }
-            plan.predecessors[task] |= 1 << from;
-            tokens.advance();
             return true;
         }
     }

@@ -31,6 +31,7 @@ public final class PromiseTests {
         undo();
         saving();
         output();
+        fullProject();
         wildArguments();
         check.finish();
     }
@@ -508,6 +509,13 @@ public final class PromiseTests {
         check.equal("45 nothing changes", spread.rule(), 0);
         check.equal("35", spread.makespan(), 6);
         check.equal("46 rule 1 finds the long one too", spread.bestRule(), 1);
+        ProjectPlanner third = Typist.loaded("project 0;resource r 1;task a 3 1;task b 4 1;task c 4 1 after a b;"
+            + "task d 1 1 after b;task e 3 0 after d;");
+        check.equal("45 rule 0", third.makespanWith(0), 15);
+        check.equal("45 rule 1", third.makespanWith(1), 15);
+        check.equal("45 rule 2", third.makespanWith(2), 15);
+        check.equal("45 rule 3", third.makespanWith(3), 12);
+        check.equal("46 the last rule", third.bestRule(), 3);
         check.badArgument("45", () -> spread.makespanWith(4));
         check.badArgument("45", () -> spread.makespanWith(-1));
         ProjectPlanner longest = Typist.loaded("project 0;resource r 1;resource q 1;task a 1 1 0;task b 2 0 1 after a;"
@@ -565,6 +573,11 @@ public final class PromiseTests {
         check.equal("39 into the successor before no room", planner.whyNotOn(3, 12), 3);
         check.equal("39 no room on the last day alone", Typist.loaded(
             "project 0;resource r 1;task a 2 1;task b 2 1;task c 2 1;").whyNotOn(2, 3), 4);
+        ProjectPlanner back = Typist.loaded("project 0;resource r 1;task a 2 0;task b 3 0;");
+        back.addLink(1, 0);
+        check.equal("39 the successor has the number 0", back.whyNotOn(1, 1), 3);
+        check.equal("25 the successor has the number 0", latest(back), "3 0 ");
+        check.equal("27 the successor has the number 0", freeSlacks(back), "0 0 ");
         check.outOfBounds("39 the task first", () -> planner.whyNotOn(5, -1));
         check.badArgument("39 day", () -> planner.whyNotOn(0, 1000));
         check.badArgument("39 day", () -> planner.whyNotOn(0, -1));
@@ -589,6 +602,8 @@ public final class PromiseTests {
         check.equal("41 the length again", planner.lowerBound(), 14);
         check.equal("43 thirds", Typist.loaded("project 0;resource r 1;task a 5 0;task b 1 0;task c 2 0;")
             .meanSlack(), 7.0 / 3.0);
+        check.equal("43 the slack of the first", Typist.loaded("project 0;resource r 1;task a 1 0;task b 4 0;")
+            .meanSlack(), 1.5);
         check.equal("42 nothing to do", Typist.loaded("project 0;resource r 1;task a 5 0;").utilization(0), 0f);
         check.equal("44", Typist.loaded(ONE_OF_TWO).inconsistencies(), 0);
     }
@@ -641,6 +656,8 @@ public final class PromiseTests {
         check.equal("51 previous", planner.setDemand(1, 0, 3), 2);
         check.equal("51 previous", planner.setDemand(1, 0, 0), 3);
         check.equal("51 set", planner.demand(1, 0), 0);
+        check.equal("51 another resource", planner.setDemand(3, 1, 1), 0);
+        check.equal("51 another resource", planner.demand(3, 1), 1);
         check.equal("51 the others stay", planner.demand(1, 1) * 10 + planner.demand(0, 0), 12);
         check.badArgument("51 over the capacity", () -> planner.setDemand(1, 1, 2));
         check.badArgument("51 negative", () -> planner.setDemand(1, 1, -1));
@@ -668,7 +685,8 @@ public final class PromiseTests {
         check.badState("53 to itself", () -> planner.addLink(2, 2));
         check.badState("53 a cycle of two", () -> planner.addLink(4, 2));
         check.badState("53 a longer cycle", () -> planner.addLink(4, 0));
-        check.outOfBounds("53 from", () -> planner.addLink(5, 5));
+        check.outOfBounds("53 from", () -> planner.addLink(5, 0));
+        check.outOfBounds("53 from", () -> planner.addLink(-1, 0));
         check.outOfBounds("53 to", () -> planner.addLink(0, -1));
         check.equal("53 nothing more", planner.linkCount(), 6);
         check.equal("54 links", planner.removeLink(2, 4), 5);
@@ -697,6 +715,7 @@ public final class PromiseTests {
         planner.setDemand(0, 0, 1);
         planner.setDemand(1, 0, 1);
         check.equal("55 now it can", planner.setCapacity(0, 1), 2);
+        check.equal("55 set", planner.capacity(0), 1);
     }
 
     // 57
@@ -710,6 +729,11 @@ public final class PromiseTests {
         check.equal("57 pipe to paint", planner.hasLink(2, 3), true);
         check.equal("57 what moves down", planner.duration(3) * 1000 + planner.release(3) * 10 + planner.demand(1, 1),
             3051);
+        check.equal("57 what moves down", planner.demand(0, 0) * 100 + planner.demand(2, 0) * 10 + planner.demand(2, 1),
+            210);
+        check.equal("38 without the dropped one", planner.runningCount(3), 1);
+        check.equal("38 without the dropped one", planner.runningCount(1), 2);
+        check.equal("40 without the dropped one", planner.work(0), 15);
         check.outOfBounds("57 it is gone", () -> planner.dropTask(4));
         check.outOfBounds("57 negative", () -> planner.dropTask(-1));
         check.equal("57 the first", planner.dropTask(0), 3);
@@ -742,6 +766,15 @@ public final class PromiseTests {
 
         check.equal("58 nothing", Typist.script(planner, " \n"), 0);
         check.equal("58 nothing is a change", planner.undo(), 0);
+        planner.setRelease(0, 4);
+        check.equal("58 the least numbers", Typist.script(planner,
+            "release dig 0;duration dig 1;demand wall crane 0;rule 0;"), 4);
+        check.equal("58 the least numbers", planner.release(0) * 10 + planner.duration(0), 1);
+        planner.undo();
+        planner.undo();
+        check.equal("58 the greatest numbers", Typist.script(planner,
+            "release dig 99;duration dig 30;demand wall crew 3;rule 3;capacity crane 9;"), 5);
+        planner.undo();
         stops(0, "duration dig 0;rule 0;");
         stops(0, "duration dig 31;rule 0;");
         stops(0, "demand wall crane 2;rule 0;");
@@ -750,6 +783,10 @@ public final class PromiseTests {
         stops(0, "link paint dig;rule 0;");
         stops(0, "link dig wall;rule 0;");
         stops(0, "unlink wall dig;rule 0;");
+        stops(1, "drop dig;unlink dig wall;rule 0;");
+        stops(1, "drop wall;unlink dig wall;rule 0;");
+        stops(1, "drop wall;demand wall crew 1;rule 0;");
+        stops(1, "drop wall;release wall 1;rule 0;");
         stops(0, "capacity crew 1;rule 0;");
         stops(0, "capacity crew 10;rule 0;");
         stops(0, "capacity crew 0;rule 0;");
@@ -882,6 +919,41 @@ public final class PromiseTests {
         ProjectPlanner one = Typist.loaded("project 0;resource r 1;task z 1 1;");
         one.setRelease(0, 99);
         check.equal("62 three digits", Typist.output(one), "z:99-100*");
+    }
+
+    // As many tasks and resources as there can be, one after the other, as late as can be.
+    private static void fullProject() {
+        ProjectPlanner full = Typist.loaded("project 3;resource p 9;resource q 9;resource r 9;"
+            + "task abcdef 30 9 9 9;task b 30 9 9 9 after abcdef;task c 30 9 9 9 after b;task d 30 9 9 9 after c;"
+            + "task e 30 9 9 9 after d;task f 30 9 9 9 after e;task g 30 9 9 9 after f;task h 30 9 9 9 after g;"
+            + "task i 30 9 9 9 after h;task j 30 9 9 9 after i;task k 30 9 9 9 after j;task l 30 9 9 9 after k;");
+        full.setRelease(0, 99);
+        check.equal("30 full", full.projectLength(), 459);
+        check.equal("35 full", full.makespan(), 459);
+        check.equal("29 full", full.criticalCount(), 12);
+        check.equal("43 full", full.meanSlack(), 0.0);
+        check.equal("41 full", full.lowerBound(), 459);
+        check.equal("44 full", full.inconsistencies(), 0);
+        check.equal("46 full", full.bestRule(), 0);
+        check.equal("48 full", full.bottleneck(), -1);
+        check.equal("17 full", full.linkCount(), 11);
+        check.equal("38 full", full.runningCount(458), 1);
+        check.equal("23 full", full.closedCycleLength(11, 0), 12);
+        check.equal("21 full", full.followerCount(0), 11);
+        check.equal("27 full", full.freeSlack(11), 0);
+        check.equal("62 full", full.writeSchedule(), 14 + 11 * 10 + 11);
+        for (int resource = 0; resource < 3; resource++) {
+            check.equal("31 full", full.overloadedDays(resource), 0);
+            check.equal("36 full", full.usage(resource, 458), 9);
+            check.equal("37 full", full.peakUsage(resource), 9);
+            check.equal("40 full", full.work(resource), 3240);
+            check.equal("42 full", full.utilization(resource), 3240f / 4131f);
+            check.equal("47 full", full.makespanWithMore(resource), 459);
+        }
+        check.equal("39 full", full.whyNotOn(11, 999), 0);
+        check.equal("57 full", full.dropTask(5), 11);
+        check.equal("17 one dropped", full.linkCount(), 9);
+        check.equal("35 one dropped", full.makespan(), 339);
     }
 
     // Rule 7 of LANGUAGE.md: whatever the arguments, the exception is the document's own.
