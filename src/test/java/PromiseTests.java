@@ -40,7 +40,7 @@ public final class PromiseTests {
     private static void newObject() {
         ProjectPlanner fresh = new ProjectPlanner();
         same("1 the first project", fresh, Typist.loaded(FIRST));
-        check.equal("1 names", names(fresh), "dig wall roof pipe paint ");
+        check.equal("1 names", Shown.names(fresh), "dig wall roof pipe paint");
         check.equal("1 rule", fresh.rule(), 1);
         check.equal("1 buffer is empty", fresh.truncate(0), 0);
         check.badArgument("1 buffer is empty", () -> fresh.truncate(1));
@@ -89,7 +89,7 @@ public final class PromiseTests {
         check.equal("4 tasks", Typist.load(planner, ONE_OF_TWO), 2);
         check.equal("4 empties", planner.truncate(0), 0);
         check.badArgument("4 empties", () -> planner.truncate(1));
-        check.equal("4 replaces", names(planner), "a b ");
+        check.equal("4 replaces", Shown.names(planner), "a b");
         check.equal("4 replaces the rule", planner.rule(), 0);
         check.equal("4 replaces the resources", planner.resourceCount(), 1);
         check.equal("4 replaces the links", planner.linkCount(), 0);
@@ -110,11 +110,11 @@ public final class PromiseTests {
         check.equal("4 releases are 0", Typist.load(planner, ONE_OF_TWO) + planner.release(1), 2);
         check.equal("5 no error", planner.errorCode(), 0);
         check.equal("6 no error", planner.errorPosition(), -1);
-        check.equal("4 grammar words as names", names(Typist.loaded("project 3;resource task 1;resource after 2;"
-            + "task after 1 0 0;task task 1 0 0 after after;task link 1 1 2 after after task;")), "after task link ");
-        check.equal("4 no separators needed", names(Typist.loaded("project1;resource r1;task a1 1;")), "a ");
-        check.equal("4 line feeds and leading zeros", names(Typist.loaded(
-            "\n project\n001 ;\n\nresource r 009;task a 030 9 ; ")), "a ");
+        check.equal("4 grammar words as names", Shown.names(Typist.loaded("project 3;resource task 1;resource after 2;"
+            + "task after 1 0 0;task task 1 0 0 after after;task link 1 1 2 after after task;")), "after task link");
+        check.equal("4 no separators needed", Shown.names(Typist.loaded("project1;resource r1;task a1 1;")), "a");
+        check.equal("4 line feeds and leading zeros", Shown.names(Typist.loaded(
+            "\n project\n001 ;\n\nresource r 009;task a 030 9 ; ")), "a");
         check.equal("4 twelve tasks", Typist.loaded("project 0;resource r 1;" + tasks(12)).taskCount(), 12);
         check.equal("4 a long text", Typist.loaded(padded(FIRST, 600)).taskCount(), 5);
         check.equal("4 a resource and a task of one name",
@@ -384,20 +384,20 @@ public final class PromiseTests {
     // 24 to 31
     private static void dates() {
         ProjectPlanner planner = new ProjectPlanner();
-        check.equal("24", earliest(planner), "0 3 8 3 8 ");
-        check.equal("25", latest(planner), "0 3 9 4 8 ");
-        check.equal("26", slacks(planner), "0 0 1 1 0 ");
-        check.equal("27", freeSlacks(planner), "0 0 1 1 0 ");
+        check.equal("24", earliest(planner), "0 3 8 3 8");
+        check.equal("25", latest(planner), "0 3 9 4 8");
+        check.equal("26", slacks(planner), "0 0 1 1 0");
+        check.equal("27", freeSlacks(planner), "0 0 1 1 0");
         check.equal("28 critical", planner.isCritical(4), true);
         check.equal("28 not critical", planner.isCritical(3), false);
         check.equal("29", planner.criticalCount(), 3);
         check.equal("30", planner.projectLength(), 11);
         planner.setRelease(3, 6);
         planner.setRelease(1, 1);
-        check.equal("24 with releases", earliest(planner), "0 3 8 6 10 ");
-        check.equal("25 with releases", latest(planner), "2 5 11 6 10 ");
-        check.equal("26 with releases", slacks(planner), "2 2 3 0 0 ");
-        check.equal("27 with releases", freeSlacks(planner), "0 0 3 0 0 ");
+        check.equal("24 with releases", earliest(planner), "0 3 8 6 10");
+        check.equal("25 with releases", latest(planner), "2 5 11 6 10");
+        check.equal("26 with releases", slacks(planner), "2 2 3 0 0");
+        check.equal("27 with releases", freeSlacks(planner), "0 0 3 0 0");
         check.equal("29 with releases", planner.criticalCount(), 2);
         check.equal("30 with releases", planner.projectLength(), 13);
         ProjectPlanner crowd = Typist.loaded("project 0;resource r 2;resource q 1;task a 4 1 0;task b 2 2 0;"
@@ -411,63 +411,43 @@ public final class PromiseTests {
     }
 
     private static String earliest(ProjectPlanner planner) {
-        StringBuilder text = new StringBuilder();
-        for (int task = 0; task < planner.taskCount(); task++) {
-            text.append(planner.earliestStart(task)).append(' ');
-        }
-        return text.toString();
+        return Shown.each(planner, planner::earliestStart);
     }
 
     private static String latest(ProjectPlanner planner) {
-        StringBuilder text = new StringBuilder();
-        for (int task = 0; task < planner.taskCount(); task++) {
-            text.append(planner.latestStart(task)).append(' ');
-        }
-        return text.toString();
+        return Shown.each(planner, planner::latestStart);
     }
 
     private static String slacks(ProjectPlanner planner) {
-        StringBuilder text = new StringBuilder();
-        for (int task = 0; task < planner.taskCount(); task++) {
-            text.append(planner.slack(task)).append(' ');
-        }
-        return text.toString();
+        return Shown.each(planner, planner::slack);
     }
 
     private static String freeSlacks(ProjectPlanner planner) {
-        StringBuilder text = new StringBuilder();
-        for (int task = 0; task < planner.taskCount(); task++) {
-            text.append(planner.freeSlack(task)).append(' ');
-        }
-        return text.toString();
+        return Shown.each(planner, planner::freeSlack);
     }
 
     private static String starts(ProjectPlanner planner) {
-        StringBuilder text = new StringBuilder();
-        for (int task = 0; task < planner.taskCount(); task++) {
-            text.append(planner.startDay(task)).append(' ');
-        }
-        return text.toString();
+        return Shown.each(planner, planner::startDay);
     }
 
     // 32 to 35
     private static void schedule() {
         ProjectPlanner planner = Typist.loaded(ONE_OF_TWO);
-        check.equal("32 one after the other", starts(planner), "0 2 ");
+        check.equal("32 one after the other", starts(planner), "0 2");
         check.equal("33", planner.finishDay(0), 2);
         check.equal("33", planner.finishDay(1), 5);
         check.equal("34", planner.delay(0), 0);
         check.equal("34", planner.delay(1), 2);
         check.equal("35", planner.makespan(), 5);
         planner.setRelease(0, 2);
-        check.equal("32 a gap is not wide enough", starts(planner), "2 4 ");
+        check.equal("32 a gap is not wide enough", starts(planner), "2 4");
         check.equal("34 counts from the earliest start", planner.delay(0), 0);
         planner.setRelease(0, 3);
-        check.equal("32 a gap is just wide enough", starts(planner), "3 0 ");
+        check.equal("32 a gap is just wide enough", starts(planner), "3 0");
         planner.addLink(0, 1);
-        check.equal("32 not before the predecessor's finish", starts(planner), "3 5 ");
+        check.equal("32 not before the predecessor's finish", starts(planner), "3 5");
         planner.setRelease(1, 40);
-        check.equal("32 not before the release", starts(planner), "3 40 ");
+        check.equal("32 not before the release", starts(planner), "3 40");
         planner.setRelease(0, 99);
         planner.setDuration(1, 30);
         check.equal("35 far", planner.makespan(), 131);
@@ -480,27 +460,27 @@ public final class PromiseTests {
         check.equal("36 the last day", late.usage(0, 458), 1);
         check.equal("36 behind the last day", late.usage(0, 459), 0);
         ProjectPlanner second = Typist.loaded("project 0;resource r 9;resource q 1;task a 2 1 1;task b 3 1 1;");
-        check.equal("32 the second resource counts too", starts(second), "0 2 ");
+        check.equal("32 the second resource counts too", starts(second), "0 2");
         ProjectPlanner edges = Typist.loaded("project 0;resource r 2;task a 3 1;task b 3 1;task c 3 1;");
-        check.equal("32 up to the capacity", starts(edges), "0 0 3 ");
+        check.equal("32 up to the capacity", starts(edges), "0 0 3");
     }
 
     // 9, 32, 45, 46
     private static void rules() {
         ProjectPlanner planner = Typist.loaded("project 0;resource r 1;task a 1 1;task b 5 1;task c 2 1;"
             + "task d 4 1 after c;task e 1 1 after d;");
-        check.equal("32 rule 0", starts(planner), "0 1 6 8 12 ");
+        check.equal("32 rule 0", starts(planner), "0 1 6 8 12");
         check.equal("45 rule 0", planner.makespanWith(0), 13);
         planner.setRule(1);
-        check.equal("32 rule 1", starts(planner), "11 2 0 7 12 ");
+        check.equal("32 rule 1", starts(planner), "11 2 0 7 12");
         planner.setRule(2);
-        check.equal("32 rule 2", starts(planner), "11 0 5 7 12 ");
+        check.equal("32 rule 2", starts(planner), "11 0 5 7 12");
         planner.setRule(3);
-        check.equal("32 rule 3", starts(planner), "6 7 0 2 12 ");
+        check.equal("32 rule 3", starts(planner), "6 7 0 2 12");
         ProjectPlanner tie = Typist.loaded("project 1;resource r 1;task a 2 1;task b 2 1;");
         for (int rule = 0; rule <= 3; rule++) {
             tie.setRule(rule);
-            check.equal("32 the lowest number wins a tie", starts(tie), "0 2 ");
+            check.equal("32 the lowest number wins a tie", starts(tie), "0 2");
         }
         check.equal("46 a tie", tie.bestRule(), 0);
         ProjectPlanner spread = Typist.loaded("project 0;resource r 2;task a 2 1;task b 2 1;task c 4 1;");
@@ -566,7 +546,7 @@ public final class PromiseTests {
         check.equal("39 into the successor", planner.whyNotOn(3, 5), 3);
         check.equal("39 far", planner.whyNotOn(4, 999), 0);
         planner.setCapacity(0, 2);
-        check.equal("32 pipe waits", starts(planner), "0 3 8 8 12 ");
+        check.equal("32 pipe waits", starts(planner), "0 3 8 8 12");
         check.equal("39 no room", planner.whyNotOn(3, 7), 4);
         check.equal("39 no room on the first days alone", planner.whyNotOn(3, 3), 4);
         check.equal("39 its own usage does not count", planner.whyNotOn(3, 8), 0);
@@ -576,8 +556,8 @@ public final class PromiseTests {
         ProjectPlanner back = Typist.loaded("project 0;resource r 1;task a 2 0;task b 3 0;");
         back.addLink(1, 0);
         check.equal("39 the successor has the number 0", back.whyNotOn(1, 1), 3);
-        check.equal("25 the successor has the number 0", latest(back), "3 0 ");
-        check.equal("27 the successor has the number 0", freeSlacks(back), "0 0 ");
+        check.equal("25 the successor has the number 0", latest(back), "3 0");
+        check.equal("27 the successor has the number 0", freeSlacks(back), "0 0");
         check.outOfBounds("39 the task first", () -> planner.whyNotOn(5, -1));
         check.badArgument("39 day", () -> planner.whyNotOn(0, 1000));
         check.badArgument("39 day", () -> planner.whyNotOn(0, -1));
@@ -723,7 +703,7 @@ public final class PromiseTests {
         ProjectPlanner planner = new ProjectPlanner();
         planner.setRelease(4, 5);
         check.equal("57 tasks", planner.dropTask(1), 4);
-        check.equal("57 names", names(planner), "dig roof pipe paint ");
+        check.equal("57 names", Shown.names(planner), "dig roof pipe paint");
         check.equal("57 links", planner.linkCount(), 2);
         check.equal("57 dig to pipe", planner.hasLink(0, 2), true);
         check.equal("57 pipe to paint", planner.hasLink(2, 3), true);
@@ -739,7 +719,7 @@ public final class PromiseTests {
         check.equal("57 the first", planner.dropTask(0), 3);
         check.equal("57 the last", planner.dropTask(2), 2);
         check.equal("57 one more", planner.dropTask(0), 1);
-        check.equal("57 names", names(planner), "pipe ");
+        check.equal("57 names", Shown.names(planner), "pipe");
         check.badState("57 the only one", () -> planner.dropTask(0));
         check.outOfBounds("57 the task first", () -> planner.dropTask(1));
         check.equal("57 still there", planner.taskCount(), 1);
@@ -757,7 +737,7 @@ public final class PromiseTests {
         check.equal("58 links", planner.linkCount(), 4);
         check.equal("58 capacity", planner.capacity(1), 2);
         check.equal("58 rule", planner.rule(), 2);
-        check.equal("58 drop", names(planner), "dig wall roof paint ");
+        check.equal("58 drop", Shown.names(planner), "dig wall roof paint");
         check.equal("5 no error", planner.errorCode(), 0);
         check.equal("6 no error", planner.errorPosition(), -1);
         check.badArgument("58 empties", () -> planner.truncate(1));
@@ -836,7 +816,7 @@ public final class PromiseTests {
         planner.setRule(0);
         planner.dropTask(2);
         check.equal("59 drop", planner.undo(), 3);
-        check.equal("59 drop", names(planner), "dig wall roof pipe paint ");
+        check.equal("59 drop", Shown.names(planner), "dig wall roof pipe paint");
         check.equal("59 rule", planner.undo(), 2);
         check.equal("59 demand", planner.undo(), 1);
         check.equal("59 duration", planner.undo(), 0);
@@ -1023,34 +1003,7 @@ public final class PromiseTests {
         }
     }
 
-    private static String names(ProjectPlanner planner) {
-        StringBuilder text = new StringBuilder();
-        for (int task = 0; task < planner.taskCount(); task++) {
-            text.append(Typist.taskName(planner, task)).append(' ');
-        }
-        return text.toString();
-    }
-
     private static void same(String what, ProjectPlanner got, ProjectPlanner due) {
-        check.equal(what, described(got), described(due));
-    }
-
-    private static String described(ProjectPlanner planner) {
-        StringBuilder text = new StringBuilder();
-        text.append(planner.rule()).append('/');
-        for (int resource = 0; resource < planner.resourceCount(); resource++) {
-            text.append(planner.capacity(resource)).append(' ');
-        }
-        for (int task = 0; task < planner.taskCount(); task++) {
-            text.append('/').append(Typist.taskName(planner, task)).append(' ').append(planner.duration(task));
-            text.append(' ').append(planner.release(task));
-            for (int resource = 0; resource < planner.resourceCount(); resource++) {
-                text.append(' ').append(planner.demand(task, resource));
-            }
-            for (int from = 0; from < planner.taskCount(); from++) {
-                text.append(planner.hasLink(from, task) ? " after " + from : "");
-            }
-        }
-        return text.toString();
+        check.equal(what, Shown.project(got), Shown.project(due));
     }
 }
