@@ -84,6 +84,15 @@ abstract class Boundary {
         return text.toString();
     }
 
+    /** 12 tasks, and a link to each from the one behind it. */
+    static ProjectPlanner backward() {
+        ProjectPlanner planner = loaded(bare(12));
+        for (int task = 11; task > 0; task--) {
+            planner.addLink(task, task - 1);
+        }
+        return planner;
+    }
+
     static String padded(String text, int length) {
         return text + " ".repeat(length - text.length());
     }

@@ -121,6 +121,10 @@ final class ChangeBoundaries extends Boundary {
             }
         }
         is("all", Shown.project(planner), Shown.project(loaded(dense(12))));
+        ProjectPlanner backward = loaded(bare(12));
+        for (int to = 0; to < 11; to++) {
+            is("backward", backward.addLink(to + 1, to), to + 1);
+        }
         changes(asked -> asked.addLink(2, 3), 6, START.replace("after 0/paint", "after 0 after 2/paint"));
         changes(asked -> asked.addLink(0, 4), 6, START.replace("0 after 1 after 3", "0 after 0 after 1 after 3"));
     }
@@ -157,6 +161,12 @@ final class ChangeBoundaries extends Boundary {
         for (int length = 2; length <= 12; length++) {
             int last = length - 1;
             is("of " + length + " links", Check.answer(() -> loaded(FULL).addLink(last, 0)), "throws IllegalStateException");
+            ProjectPlanner backward = loaded(bare(12));
+            for (int to = 0; to < last; to++) {
+                backward.addLink(to + 1, to);
+            }
+            is("of " + length + " links backward", Check.answer(() -> backward.addLink(0, last)),
+                "throws IllegalStateException");
         }
     }
 

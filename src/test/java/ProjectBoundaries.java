@@ -203,6 +203,7 @@ final class ProjectBoundaries extends Boundary {
         is("none", loaded(bare(12)).linkCount(), 0);
         is("all that there can be", loaded(dense(12)).linkCount(), 66);
         is("one", loaded(dense(2)).linkCount(), 1);
+        is("to each task from the one behind it", backward().linkCount(), 11);
         question(Boundary::eventful, ProjectPlanner::linkCount, 6);
     }
 
@@ -242,12 +243,8 @@ final class ProjectBoundaries extends Boundary {
         is("a gap", planner.isBefore(0, 6), false);
         is("up to the gap", planner.isBefore(0, 5), true);
         is("from the gap", planner.isBefore(6, 11), true);
-        ProjectPlanner backward = loaded(bare(12));
-        for (int task = 11; task > 0; task--) {
-            backward.addLink(task, task - 1);
-        }
-        is("backward", backward.isBefore(11, 0), true);
-        is("backward", backward.isBefore(0, 11), false);
+        is("backward", backward().isBefore(11, 0), true);
+        is("backward", backward().isBefore(0, 11), false);
         question(Boundary::eventful, asked -> asked.isBefore(0, 2), true);
     }
 
@@ -290,6 +287,7 @@ final class ProjectBoundaries extends Boundary {
         ProjectPlanner row = loaded(FULL);
         is("by sequences too", Shown.each(row, row::followerCount), "11 10 9 8 7 6 5 4 3 2 1 0");
         is("one task", loaded(LEAST).followerCount(0), 0);
+        is("backward", Shown.each(backward(), backward()::followerCount), "0 1 2 3 4 5 6 7 8 9 10 11");
         ProjectPlanner fork = loaded(ONE_UNIT + "task a 1 0;task b 1 0 after a;task c 1 0 after a;task d 1 0 after b c;");
         is("each once", fork.followerCount(0), 3);
         question(Boundary::eventful, asked -> asked.followerCount(3), 2);
@@ -314,10 +312,7 @@ final class ProjectBoundaries extends Boundary {
         planner.removeLink(11, 0);
         planner.addLink(5, 0);
         is("two at once", Shown.each(planner, planner::topologicalOrder), "2 3 4 5 0 1 6 7 8 9 10 11");
-        ProjectPlanner backward = loaded(bare(12));
-        for (int task = 11; task > 0; task--) {
-            backward.addLink(task, task - 1);
-        }
+        ProjectPlanner backward = backward();
         is("backward", Shown.each(backward, backward::topologicalOrder), "11 10 9 8 7 6 5 4 3 2 1 0");
         is("one task", loaded(LEAST).topologicalOrder(0), 0);
         question(Boundary::eventful, asked -> asked.topologicalOrder(4), 4);
@@ -344,6 +339,10 @@ final class ProjectBoundaries extends Boundary {
         is("the rest as before", row.closedCycleLength(10, 0), 11);
         row.addLink(2, 9);
         is("a way cut short", row.closedCycleLength(10, 0), 5);
+        for (int to = 0; to < 12; to++) {
+            is("from the task with the number 0", backward().closedCycleLength(0, to), to + 1);
+            is("to the task with the number 0", backward().closedCycleLength(to, 0), to == 0 ? 1 : -1);
+        }
         ProjectPlanner full = loaded(dense(12));
         is("every link is there", full.closedCycleLength(11, 0), 2);
         question(Boundary::eventful, planner -> planner.closedCycleLength(4, 0), 3);

@@ -39,6 +39,7 @@ final class ScheduleBoundaries extends Boundary {
         is("released the day before", released(planner, 3, 4).earliestStart(3), 5);
         is("released the same day", released(planner, 3, 5).earliestStart(3), 5);
         is("released the day after", released(planner, 3, 6).earliestStart(3), 6);
+        is("backward", Shown.each(backward(), backward()::earliestStart), "11 10 9 8 7 6 5 4 3 2 1 0");
         is("the predecessor's release", released(planner, 0, 3).earliestStart(2), 8);
         is("only one predecessor's", planner.earliestStart(3), 8);
         question(Boundary::eventful, asked -> asked.earliestStart(2), 12);
@@ -67,6 +68,7 @@ final class ScheduleBoundaries extends Boundary {
         is("the other one itself", planner.latestStart(3), 5);
         planner.setDuration(3, 3);
         is("one day between them", Shown.each(planner, planner::latestStart), "1 0 7 6");
+        is("backward", Shown.each(backward(), backward()::latestStart), "11 10 9 8 7 6 5 4 3 2 1 0");
         question(Boundary::eventful, asked -> asked.latestStart(1), 6);
     }
 
@@ -92,6 +94,7 @@ final class ScheduleBoundaries extends Boundary {
         ProjectPlanner planner = loaded(LINKED);
         is(Shown.each(planner, planner::slack), "2 0 0 3");
         is("none at all", Shown.each(latest(), latest()::slack), "0 0 0 0 0 0 0 0 0 0 0 0");
+        is("backward", Shown.each(backward(), backward()::slack), "0 0 0 0 0 0 0 0 0 0 0 0");
         is("the most", longSlack().slack(11), 428);
         is("a release takes it", released(longSlack(), 11, 99).slack(11), 329);
         question(Boundary::eventful, asked -> asked.slack(3), 4);
@@ -111,6 +114,8 @@ final class ScheduleBoundaries extends Boundary {
         is("the successor waits for its release", released(planner, 3, 6).freeSlack(0), 1);
         is("the nearer successor", released(planner, 3, 9).freeSlack(0), 2);
         is("the most", longSlack().freeSlack(11), 428);
+        is("backward", Shown.each(backward(), backward()::freeSlack), "0 0 0 0 0 0 0 0 0 0 0 0");
+        is("backward", released(backward(), 0, 50).freeSlack(1), 39);
         is("alone", loaded(LEAST).freeSlack(0), 0);
         question(Boundary::eventful, asked -> asked.freeSlack(3), 1);
         question(Boundary::eventful, asked -> asked.freeSlack(4), 3);
@@ -464,6 +469,7 @@ final class ScheduleBoundaries extends Boundary {
         is("a finish on the successor's start day", row().whyNotOn(0, 0), 0);
         is("a finish one day later", row().whyNotOn(0, 1), 3);
         is("far behind", row().whyNotOn(0, 999), 3);
+        is("backward", backward().whyNotOn(1, 10) + " " + backward().whyNotOn(1, 11), "0 3");
         ProjectPlanner planner = released(row(), 2, 9);
         is("a finish on the start day", planner.whyNotOn(1, 6), 0);
         is("a finish one day later", planner.whyNotOn(1, 7), 3);

@@ -185,6 +185,7 @@ final class TextBoundaries extends Boundary {
                     ProjectPlanner planner = loaded(before);
                     planner.setRelease(0, 99);
                     planner.save(0);
+                    planner.makespanWithDuration(0, 30);
                     Typist.load(planner, text);
                     is(part.of(planner), part.of(loaded(text)));
                 }
@@ -199,8 +200,22 @@ final class TextBoundaries extends Boundary {
         for (int task = 0; task < 12; task++) {
             planner.setRelease(task, 99);
         }
+        planner.bestRule();
+        planner.bottleneck();
         Typist.load(planner, bare(12));
         is(Shown.each(planner, planner::release), "0 0 0 0 0 0 0 0 0 0 0 0");
+    }
+
+    static void p04_nothingIsLeftOfATextWithAnError() {
+        says("A valid setup replaces the whole state, discards the saved states, and clears the undo history.");
+        for (String text : new String[] {LEAST, FIRST, bare(12)}) {
+            for (Shown.Part part : Shown.all()) {
+                ProjectPlanner planner = new ProjectPlanner();
+                is(errorOf(planner, FULL + "x", ProjectPlanner::load), failed(1, FULL.length()));
+                Typist.load(planner, text);
+                is(part.of(planner), part.of(loaded(text)));
+            }
+        }
     }
 
     static void p04_discardsBothSavedStates() {
@@ -271,6 +286,41 @@ final class TextBoundaries extends Boundary {
         is(setupErrorOf(" ".repeat(600 - FIRST.length()) + FIRST), worked(5));
         is(setupErrorOf(" ".repeat(600)), failed(1, 600));
         is(setupErrorOf(" ".repeat(599) + "x"), failed(1, 599));
+    }
+
+    static void p04_aTokenAtTheEndOf600Bytes() {
+        says("The input buffer holds at most 600 bytes.");
+        String start = " ".repeat(600 - FIRST.length());
+        for (int length : new int[] {599, 600}) {
+            for (String end : new String[] {"project 3", "project", "project 3;resource r 1;task x 1 0 after"}) {
+                is(end, setupErrorOf(" ".repeat(length - end.length()) + end), failed(1, length));
+            }
+        }
+        is("a semicolon", setupErrorOf(start + FIRST), worked(5));
+        is("a digit too many", setupErrorOf(" ".repeat(588) + "project 0001"), failed(1, 596));
+        is("a letter too many", setupErrorOf(" ".repeat(591) + "abcdefghi"), failed(1, 591));
+    }
+
+    static void p04_nothingBehindTheLength() {
+        says("Parses the input buffer as a setup text and empties the buffer, also if the text has an error.");
+        for (int length = 0; length <= FIRST.length(); length++) {
+            ProjectPlanner cut = new ProjectPlanner();
+            Typist.type(cut, FIRST);
+            cut.truncate(length);
+            String found = Check.answer(cut::load) + " " + Shown.errors(cut);
+            is("cut at " + length, found, setupErrorOf(FIRST.substring(0, length)));
+        }
+        ProjectPlanner digits = new ProjectPlanner();
+        Typist.type(digits, "project 39");
+        digits.truncate(9);
+        is("a number cut", Check.answer(digits::load) + " " + Shown.errors(digits), failed(1, 9));
+        ProjectPlanner letters = new ProjectPlanner();
+        Typist.type(letters, "projects");
+        letters.truncate(7);
+        is("a word cut", Check.answer(letters::load) + " " + Shown.errors(letters), failed(1, 7));
+        Typist.type(letters, LEAST + "x");
+        letters.truncate(LEAST.length());
+        is("a whole text", Check.answer(letters::load), 1);
     }
 
     static void p04_onlySpacesAndLineFeedsSeparate() {
