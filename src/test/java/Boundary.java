@@ -160,9 +160,19 @@ abstract class Boundary {
         refuses(NoSuchElementException.class, "no such element", maker, call);
     }
 
-    /** A question gets its answer and changes nothing. */
+    /** A question gets its answer and changes nothing, nor does it where both slots and the history are full. */
     static void question(Maker maker, Use call, Object due) {
         spared("a question", Shown.all(), maker, call, due);
+        for (Shown.Part part : Shown.all()) {
+            leaves("everything", call, part);
+        }
+    }
+
+    /** Whatever the call answers, the part is the same as on another planner without the call. */
+    static void leaves(String what, Use call, Shown.Part part) {
+        ProjectPlanner planner = fullHistory();
+        Check.answer(() -> call.on(planner));
+        is(what + " stays", part.of(planner), part.of(fullHistory()));
     }
 
     /** A number of a task: the first and the last one there is, and the first ones on either side that are not. */

@@ -2,13 +2,31 @@
 final class ChangeBoundaries extends Boundary {
     private static final String START = Shown.project(new ProjectPlanner());
 
-    /** What the change answers, that it can be undone, and that nothing else has changed then. */
+    /** What the change answers and does, that it can be undone, and that it leaves alone what is none of its own. */
     private static void changes(Use change, Object due, String project) {
+        changesThePlan(change, due, project);
+        leaves("the error", change, Shown::errors);
+        leaves("the buffer", change, Shown::buffer);
+    }
+
+    private static void changesThePlan(Use change, Object due, String project) {
         ProjectPlanner planner = new ProjectPlanner();
         is("the answer", Check.answer(() -> change.on(planner)), due);
         is("the project behind it", Shown.project(planner), project);
         is("one change to undo", planner.undo(), 0);
         is("the project undone", Shown.project(planner), START);
+        leaves("the output", change, Shown::output);
+        leaves("slot 0", change, asked -> Shown.restored(asked, 0));
+        leaves("slot 1", change, asked -> Shown.restored(asked, 1));
+        leavesTheHistory(change);
+    }
+
+    private static void leavesTheHistory(Use change) {
+        ProjectPlanner planner = eventful();
+        if (Check.answer(() -> change.on(planner)) instanceof Integer) {
+            planner.undo();
+        }
+        is("the changes before it stay", Shown.undone(planner, 4), Shown.undone(eventful(), 4));
     }
 
     private static void isNoChange(Use call) {
@@ -39,6 +57,17 @@ final class ChangeBoundaries extends Boundary {
         }
         changes(asked -> asked.setDuration(0, 1), 3, START.replace("dig 3", "dig 1"));
         changes(asked -> asked.setDuration(4, 30), 3, START.replace("paint 3", "paint 30"));
+    }
+
+    /** By itself, since leaves(..) compares planners that have set durations before. */
+    static void p50_leavesTheRest() {
+        says("Sets the duration of a task.");
+        for (Shown.Part part : new Shown.Part[] {Shown::output, Shown::errors, Shown::buffer,
+            planner -> Shown.restored(planner, 1)}) {
+            ProjectPlanner planner = eventful();
+            planner.setDuration(0, 9);
+            is(part.of(planner), part.of(eventful()));
+        }
     }
 
     static void p50_noSuchTask() {
@@ -388,7 +417,7 @@ final class ChangeBoundaries extends Boundary {
     }
 
     private static void script(String text, int executed, String project) {
-        changes(planner -> Typist.script(planner, text), executed, project);
+        changesThePlan(planner -> Typist.script(planner, text), executed, project);
         ProjectPlanner planner = new ProjectPlanner();
         Typist.script(planner, text);
         is("the buffer after " + text, Shown.length(planner), 0);
@@ -652,14 +681,14 @@ final class ChangeBoundaries extends Boundary {
     static void p59_whatItLeaves() {
         says("Undoing, saving and restoring affect the whole state except the input buffer, the error code, the error "
             + "position, the output text and the saved states.");
-        for (int slot = 0; slot < 2; slot++) {
-            ProjectPlanner planner = fullHistory();
-            ProjectPlanner other = fullHistory();
-            undone(planner, 6);
-            is("the output", Shown.output(planner), Shown.output(other));
-            is("the error", Shown.errors(planner), Shown.errors(other));
-            is("slot " + slot, Shown.restored(planner, slot), Shown.restored(other, slot));
-            is("the buffer", Shown.buffer(planner), Shown.buffer(other));
+        for (int times = 1; times <= 7; times++) {
+            int count = times;
+            Use undo = planner -> Shown.undone(planner, count);
+            leaves("the output", undo, Shown::output);
+            leaves("the error", undo, Shown::errors);
+            leaves("slot 0", undo, planner -> Shown.restored(planner, 0));
+            leaves("slot 1", undo, planner -> Shown.restored(planner, 1));
+            leaves("the buffer", undo, Shown::buffer);
         }
     }
 
@@ -718,12 +747,13 @@ final class ChangeBoundaries extends Boundary {
         says("Undoing, saving and restoring affect the whole state except the input buffer, the error code, the error "
             + "position, the output text and the saved states.");
         for (Shown.Part part : Shown.all()) {
-            ProjectPlanner planner = fullHistory();
-            planner.save(0);
-            ProjectPlanner due = fullHistory();
-            String shown = part.of(planner);
-            if (!shown.startsWith("restored")) {
-                is(shown, part.of(due));
+            for (int slot = 0; slot < 2; slot++) {
+                ProjectPlanner planner = eventful();
+                planner.save(slot);
+                String shown = part.of(planner);
+                if (!shown.startsWith("restored")) {
+                    is(shown, part.of(eventful()));
+                }
             }
         }
         ProjectPlanner planner = fullHistory();
@@ -800,13 +830,13 @@ final class ChangeBoundaries extends Boundary {
         says("Undoing, saving and restoring affect the whole state except the input buffer, the error code, the error "
             + "position, the output text and the saved states.");
         for (int slot = 0; slot < 2; slot++) {
-            ProjectPlanner planner = fullHistory();
-            ProjectPlanner other = fullHistory();
-            planner.restore(slot);
-            is("the output", Shown.output(planner), Shown.output(other));
-            is("the error", Shown.errors(planner), Shown.errors(other));
-            is("the other slot", Shown.restored(planner, 1 - slot), Shown.restored(other, 1 - slot));
-            is("the buffer", Shown.buffer(planner), Shown.buffer(other));
+            int asked = slot;
+            Use restore = planner -> planner.restore(asked);
+            leaves("the output", restore, Shown::output);
+            leaves("the error", restore, Shown::errors);
+            leaves("slot 0", restore, planner -> Shown.restored(planner, 0));
+            leaves("slot 1", restore, planner -> Shown.restored(planner, 1));
+            leaves("the buffer", restore, Shown::buffer);
         }
     }
 

@@ -81,6 +81,7 @@ final class ProjectBoundaries extends Boundary {
             int due = task;
             question(() -> typed(loaded(bare(12)), name), ProjectPlanner::findTask, due);
         }
+        question(() -> typed(fullHistory(), "dig"), ProjectPlanner::findTask, 0);
         is("six letters", typed(loaded(FULL), "abcdef").findTask(), 0);
         is("the number changes", dropped(typed(loaded(bare(12)), "l"), 0).findTask(), 10);
     }
@@ -104,6 +105,7 @@ final class ProjectBoundaries extends Boundary {
         question(() -> typed(loaded(FULL), "p"), ProjectPlanner::findResource, 0);
         question(() -> typed(loaded(FULL), "q"), ProjectPlanner::findResource, 1);
         question(() -> typed(loaded(FULL), "r"), ProjectPlanner::findResource, 2);
+        question(() -> typed(fullHistory(), "crane"), ProjectPlanner::findResource, 1);
         ProjectPlanner planner = loaded("project 0;resource abcdef 1;resource b 1;task b 1 0 0;task abcdef 1 0 0;");
         is("of the same name as a task", typed(planner, "abcdef").findResource(), 0);
         is("of the same name as a resource", typed(planner, "abcdef").findTask(), 1);

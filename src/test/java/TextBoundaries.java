@@ -118,6 +118,19 @@ final class TextBoundaries extends Boundary {
         is("dig", planner.findTask(), 0);
     }
 
+    static void p02_leavesTheRest() {
+        says("Appends 20 bytes to the input buffer: the four bytes of each argument, the most significant byte first.");
+        leavesAllButTheBuffer(planner -> planner.append(0x72756C65, 0x20333B20, 0, MIN, -1));
+    }
+
+    private static void leavesAllButTheBuffer(Use call) {
+        List<Shown.Part> parts = Shown.allButTexts();
+        parts.add(Shown::errors);
+        for (Shown.Part part : parts) {
+            leaves("all but the buffer", call, part);
+        }
+    }
+
     // ---- 3, truncate
 
     static void p03_fromNothingToTheLength() {
@@ -141,6 +154,12 @@ final class TextBoundaries extends Boundary {
         is(planner.findTask(), 0);
         planner.truncate(3);
         is("to the same length", planner.findTask(), 0);
+    }
+
+    static void p03_leavesTheRest() {
+        says("Truncates the input buffer.");
+        leavesAllButTheBuffer(planner -> planner.truncate(0));
+        leavesAllButTheBuffer(planner -> planner.truncate(9));
     }
 
     static void p03_outOfRange() {
@@ -683,6 +702,8 @@ final class TextBoundaries extends Boundary {
         is(errorOf(planner, "rule 1", ProjectPlanner::runScript), failed(1, 6));
         is("load behind runScript", errorOf(planner, LEAST, ProjectPlanner::load), worked(1));
         is("a command that is not possible is no error", errorOf(planner, "rule 9;", ProjectPlanner::runScript), worked(0));
+        question(Boundary::eventful, ProjectPlanner::errorCode, 3);
+        question(ProjectPlanner::new, ProjectPlanner::errorCode, 0);
     }
 
     static void p05_onlyTheLatestCall() {
@@ -761,6 +782,8 @@ final class TextBoundaries extends Boundary {
         is("runScript", Typist.script(planner, "") + planner.errorPosition(), ProjectPlanner.NONE);
         is("0 is a position", setupErrorOf("x"), failed(1, 0));
         is("600 is a position", setupErrorOf(" ".repeat(600)), failed(1, 600));
+        question(Boundary::eventful, ProjectPlanner::errorPosition, 12);
+        question(ProjectPlanner::new, ProjectPlanner::errorPosition, -1);
     }
 
     static void p06_everyEndOfAText() {
